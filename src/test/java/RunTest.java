@@ -20,6 +20,7 @@ public final class RunTest {
         singleBodies();
         arithmeticWraps();
         framesAreApart();
+        everyFrameStartsWithATemporaryOfZero();
         aSelfSendStartsAtTheReceiver();
         aSuperSendStartsAboveTheHome();
         aSuperSendInATraitMethod();
@@ -90,6 +91,15 @@ public final class RunTest {
         runs(x, "caller and callee", 0, 0, 6, 80, OK);
         runs(x, "the caller's argument", 0, 2, 6, 6, OK);
         runs(x, "the callee alone", 0, 1, 6, 9, OK);
+    }
+
+    private static void everyFrameStartsWithATemporaryOfZero() {
+        TraitFlattener x = new TraitFlattener(1, 1, 2, 4);
+        x.define(0, 0, Make.body(x, SEND, 1, SEND, 1));
+        x.define(0, 1, Make.body(x, ADD_TMP, 0, STORE, 0, ADD, 1));
+        runs(x, "one callee after the other", 0, 0, 5, 7, OK);
+        runs(x, "one run", 0, 1, 5, 6, OK);
+        runs(x, "after the other", 0, 1, 5, 6, OK);
     }
 
     private static void aSelfSendStartsAtTheReceiver() {

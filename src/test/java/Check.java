@@ -46,6 +46,20 @@ final class Check {
         }
     }
 
+    /** A test of its own for one sentence of the document, which is told if it does not hold. */
+    void holds(String sentence, Runnable test) {
+        int before = wrong;
+        try {
+            test.run();
+        } catch (RuntimeException failure) {
+            wrong++;
+            System.out.println("no answer but " + failure);
+        }
+        if (wrong != before) {
+            System.out.println("broken: " + sentence);
+        }
+    }
+
     void end() {
         if (wrong != 0) {
             System.out.println(wrong + " answers are not as due");

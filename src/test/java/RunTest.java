@@ -234,72 +234,44 @@ public final class RunTest {
         runs(x, "four sends", 0, 0, 9, 13, OK);
     }
 
-    private static void repeat(TraitFlattener x, int times, int op, int k) {
-        for (int i = 0; i < times; i++) {
-            x.emit(op, k);
-        }
-    }
-
-    /**
-     * Selector 0 takes 990 steps and those of selector 3, whose body is the open one, and then the cells of tail.
-     * The repeated cell is one step, and what it costs besides is up to the caller.
-     */
-    private static TraitFlattener longRun(int op, int k, int... tail) {
-        TraitFlattener x = new TraitFlattener(1, 1, 6, 16);
-        x.define(0, 4, x.beginBody());
-        x.define(0, 1, x.beginBody());
-        repeat(x, 16, op, k);
-        x.define(0, 2, x.beginBody());
-        repeat(x, 16, SEND, 1);
-        x.define(0, 0, x.beginBody());
-        repeat(x, 3, SEND, 2);
-        repeat(x, 10, SEND, 1);
-        x.emit(SEND, 3);
-        for (int i = 0; i < tail.length; i += 2) {
-            x.emit(tail[i], tail[i + 1]);
-        }
-        x.define(0, 3, x.beginBody());
-        return x;
-    }
-
     private static void stepLimit() {
-        TraitFlattener x = longRun(ADD, 1);
-        repeat(x, 9, ADD, 1);
+        TraitFlattener x = Make.longRun(ADD, 1);
+        Make.repeat(x, 9, ADD, 1);
         runs(x, "999 steps", 0, 0, 5, 5 + 928 + 9, OK);
-        repeat(x, 1, ADD, 1);
+        Make.repeat(x, 1, ADD, 1);
         runs(x, "1000 steps", 0, 0, 5, 5 + 928 + 10, OK);
         runs(x, "1000 steps again", 0, 0, 6, 6 + 928 + 10, OK);
-        repeat(x, 1, ADD, 1);
+        Make.repeat(x, 1, ADD, 1);
         runs(x, "1001 steps", 0, 0, 5, 0, STEPS);
         runs(x, "a short run after it", 0, 1, 5, 21, OK);
     }
 
     private static void aReturnCellIsAStep() {
-        TraitFlattener x = longRun(ADD, 1);
-        repeat(x, 9, ADD, 1);
+        TraitFlattener x = Make.longRun(ADD, 1);
+        Make.repeat(x, 9, ADD, 1);
         x.emit(RET, 0);
         runs(x, "1000 steps with a return", 0, 0, 5, 5 + 928 + 9, OK);
-        TraitFlattener y = longRun(ADD, 1);
-        repeat(y, 10, ADD, 1);
+        TraitFlattener y = Make.longRun(ADD, 1);
+        Make.repeat(y, 10, ADD, 1);
         y.emit(RET, 0);
         runs(y, "1001 steps with a return", 0, 0, 5, 0, STEPS);
     }
 
     // Selector 4 has an empty body: its send is a step, its return is none.
     private static void theEndOfABodyIsNoStep() {
-        TraitFlattener x = longRun(SEND, 4);
-        repeat(x, 10, SEND, 4);
+        TraitFlattener x = Make.longRun(SEND, 4);
+        Make.repeat(x, 10, SEND, 4);
         runs(x, "1000 sends", 0, 0, 5, 5, OK);
-        repeat(x, 1, SEND, 4);
+        Make.repeat(x, 1, SEND, 4);
         runs(x, "1001 sends", 0, 0, 5, 0, STEPS);
     }
 
     // Selector 5 is not defined, but a send that is not made any more looks nothing up.
     private static void theStepLimitComesBeforeTheLookup() {
-        TraitFlattener x = longRun(ADD, 1, SEND, 5);
-        repeat(x, 9, ADD, 1);
+        TraitFlattener x = Make.longRun(ADD, 1, SEND, 5);
+        Make.repeat(x, 9, ADD, 1);
         runs(x, "a failing send as step 1000", 0, 0, 5, 0, DNU);
-        repeat(x, 1, ADD, 1);
+        Make.repeat(x, 1, ADD, 1);
         runs(x, "a failing send as step 1001", 0, 0, 5, 0, STEPS);
     }
 

@@ -91,12 +91,16 @@ public final class ConstructionEdgesTest {
         Snapshot greatest = Snapshot.of(new TraitFlattener(8, 8, 16, 16));
         check.changed(new TraitFlattener(0, 0, 0, 0), "one below each least", least);
         check.changed(new TraitFlattener(-1, -1, -1, -1), "two below each least", least);
+        check.changed(new TraitFlattener(-2000, -2000, -2000, -2000), "far below each least", least);
         check.changed(new TraitFlattener(9, 9, 17, 17), "one above each greatest", greatest);
         check.changed(new TraitFlattener(10, 10, 18, 18), "two above each greatest", greatest);
+        check.changed(new TraitFlattener(2000, 2000, 2000, 2000), "far above each greatest", greatest);
+        check.same("depth of -2000", depthOf(-2000), 1);
         check.same("depth of -1", depthOf(-1), 1);
         check.same("depth of 0", depthOf(0), 1);
         check.same("depth of 17", depthOf(17), 16);
         check.same("depth of 18", depthOf(18), 16);
+        check.same("depth of 2000", depthOf(2000), 16);
     }
 
     private static void classesAreClamped() {

@@ -153,26 +153,34 @@ public final class LookupEdgesTest {
         void ask(TraitFlattener x, int cls, int sel);
     }
 
+    // Classes 2 and 5 begin with a conflict, which later steps override, uncover and take away.
     private static void inManyStates(Relation relation) {
         everywhere(new TraitFlattener(8, 8, 16, 16), relation);
         everywhere(Make.full(), relation);
         TraitFlattener x = ladder();
+        for (int cls : new int[] {2, 5}) {
+            x.use(cls, 0);
+            x.use(cls, 1);
+        }
+        int hidden = 0;
         for (int step : Make.range(0, 199)) {
-            int cls = step * 5 % 8;
-            int sel = step * 3 % 2 == 0 ? 0 : 15;
-            if (step % 5 == 0) {
-                x.define(cls, sel, step % 3 == 0 ? NONE : step % 16);
-            } else if (step % 5 == 1) {
-                x.setSuper(cls, step % (cls + 1) - 1);
+            int cls = step * 3 % 8;
+            int sel = step % 2 == 0 ? 0 : 15;
+            if (step % 5 < 2) {
+                x.define(cls, sel, step % 3 == 0 ? step % 16 : NONE);
             } else if (step % 5 == 2) {
+                x.setSuper(cls, cls - 1 - step % 7 % (cls + 1));
+            } else if (step % 25 == 3) {
                 x.use(cls, step % 2);
-            } else if (step % 5 == 3) {
+            } else if (step % 25 == 8) {
                 x.exclude(step % 16, sel);
-            } else {
+            } else if (step % 5 == 4) {
                 x.alias(step % 16, step % 16, sel);
             }
             everywhere(x, relation);
+            hidden += x.lookup(5, 0, SELF) == CONFLICT && x.lookup(5, 0, SUPER) >= 0 ? 1 : 0;
         }
+        check.yes("in several states, not in all, a conflict hides a method: " + hidden, hidden > 9 && hidden < 191);
     }
 
     private static void everywhere(TraitFlattener x, Relation relation) {

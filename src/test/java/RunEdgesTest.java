@@ -50,12 +50,12 @@ public final class RunEdgesTest {
         check.holds("If pc equals the length of its body, the frame RETURNS acc.", RunEdgesTest::theEndOfABody);
         check.holds("This is not a step.", RunEdgesTest::theEndOfABodyIsNoStep);
         check.holds("Else if steps = STEP_LIMIT, the run ends with STATUS_STEPS.", RunEdgesTest::outOfSteps);
-        check.holds("OP_ARG: acc = arg.", () -> single("ARG", MIN, MIN, CONST, 3, ARG, 0));
+        check.holds("OP_ARG: acc = arg.", RunEdgesTest::theArgumentStays);
         check.holds("OP_CONST: acc = k.", RunEdgesTest::constants);
         check.holds("OP_ADD: acc = acc + k.", RunEdgesTest::additions);
         check.holds("OP_MUL: acc = acc * k.", RunEdgesTest::products);
-        check.holds("OP_STORE: tmp = acc.", () -> single("STORE", 7, 4, STORE, 0, CONST, 2, STORE, 0, ADD_TMP, 0));
-        check.holds("OP_ADD_TMP: acc = acc + tmp.", () -> single("ADD_TMP", 7, 7, ADD_TMP, 0));
+        check.holds("OP_STORE: tmp = acc.", RunEdgesTest::theTemporaryStays);
+        check.holds("OP_ADD_TMP: acc = acc + tmp.", RunEdgesTest::sumsWithTheTemporary);
         check.holds("OP_SEND k: a SEND of k with value acc starting at R (a self-send).", RunEdgesTest::selfSends);
         check.holds("OP_SUPER k: a SEND of k with value acc starting at superOf(home of this frame) (a super-send).",
                 RunEdgesTest::superSends);
@@ -249,6 +249,26 @@ public final class RunEdgesTest {
         runs(x, "16 to the 15th sends", 0, 0, 5, 0, STEPS);
         runs(x, "16 sends of 16 cells, 16 times", 0, 13, 5, 0, STEPS);
         runs(x, "16 sends of 16 cells", 0, 14, 5, 5 + 256, OK);
+    }
+
+    private static void theArgumentStays() {
+        for (int arg : new int[] {MIN, -1, 0, 1, MAX}) {
+            single("ARG alone", arg, arg, ARG, 0);
+            single("ARG after CONST", arg, arg, CONST, 3, ARG, 0);
+            single("ARG after all", arg, arg, ADD, 1, MUL, 2, STORE, 0, ADD_TMP, 0, CONST, 3, ARG, 0, ARG, 0);
+        }
+    }
+
+    private static void theTemporaryStays() {
+        single("STORE leaves acc", 7, 7, STORE, 0);
+        single("STORE again", 7, 4, STORE, 0, CONST, 2, STORE, 0, ADD_TMP, 0);
+        single("tmp after all", 7, 10, STORE, 0, ADD, 1, MUL, 2, ADD_TMP, 0, ARG, 0, CONST, 3, ADD_TMP, 0);
+    }
+
+    private static void sumsWithTheTemporary() {
+        single("tmp of 0", 7, 7, ADD_TMP, 0);
+        single("tmp of acc", 7, 14, STORE, 0, ADD_TMP, 0);
+        single("tmp thrice", 7, 28, STORE, 0, ADD_TMP, 0, ADD_TMP, 0, ADD_TMP, 0);
     }
 
     private static void constants() {
